@@ -1914,10 +1914,12 @@ public final class QuarrelKeys {
     /** The ROWS that fit what a TRAY tells. */
     private static final class Fitting {
         final int[] wanted = new int[MOST_PEOPLE];
-        final int[] row = new int[LONGEST_ROW];
-        final int[] first = new int[LONGEST_ROW];
+        /** Of each PERSON and each HOUSE: 1 if he is wanted elsewhere, else 0. */
+        final int[] misfit = new int[MOST_PEOPLE * MOST_PEOPLE];
         /** Of each PERSON and each HOUSE: behind how many ROWS found he lives there. */
         final int[] tally = new int[MOST_PEOPLE * MOST_PEOPLE];
+        final int[] row = new int[LONGEST_ROW];
+        final int[] first = new int[LONGEST_ROW];
         boolean clash;
         boolean firstOnly;
         int rowLength;
@@ -1946,54 +1948,86 @@ public final class QuarrelKeys {
             found = 0;
             rowLength = k;
             firstOnly = onlyFirst;
-            for (int i = 0; i < MOST_PEOPLE * MOST_PEOPLE; i++) {
-                tally[i] = 0;
-            }
-            if (!clash) {
-                int wrong = 0;
-                for (int p = 0; p < q.people; p++) {
-                    wrong += wrongAt(this, q, p);
+            int wrong = 0;
+            for (int p = 0; p < MOST_PEOPLE; p++) {
+                for (int h = 0; h < MOST_PEOPLE; h++) {
+                    misfit[p * MOST_PEOPLE + h] = wanted[p] == NONE || wanted[p] == h ? 0 : 1;
+                    tally[p * MOST_PEOPLE + h] = 0;
                 }
-                seekOn(this, q, k, wrong);
+                wrong += q.hasPerson(p) ? misfit[p * MOST_PEOPLE + q.lives[p]] : 0;
             }
-        }
-
-        private static int wrongAt(Fitting f, Quarter q, int person) {
-            int house = f.wanted[person];
-            return house != NONE && house != q.lives[person] ? 1 : 0;
+            if (clash) {
+                return;
+            }
+            if (k > 0) {
+                seekOn(this, q, k, wrong);
+            } else if (wrong == 0) {
+                found = 1;
+                addToTally(q, 1);
+            }
         }
 
         /** Tries all ROWS of so many STAIRS more; the KEYS are back where they were in the end. */
         private static void seekOn(Fitting f, Quarter q, int left, int wrong) {
             // a STAIR can bring two to where they are wanted, no more
-            if (left < 0 || left > f.rowLength || wrong > 2 * left) {
+            if (left < 1 || left > f.rowLength || wrong > 2 * left) {
                 return;
             }
-            if (left == 0) {
-                f.keepRow(q);
+            if (left == 1) {
+                f.seekLast(q, wrong);
                 return;
             }
             for (int s = 0; s < q.stairs; s++) {
-                int a = q.one[s];
-                int b = q.other[s];
-                int before = wrongAt(f, q, a) + wrongAt(f, q, b);
-                q.exchange(a, b);
+                int wrongThen = wrong + f.change(q, s);
                 f.row[f.rowLength - left] = s;
-                seekOn(f, q, left - 1, wrong - before + wrongAt(f, q, a) + wrongAt(f, q, b));
-                q.exchange(a, b);
+                q.exchangeOn(s);
+                seekOn(f, q, left - 1, wrongThen);
+                q.exchangeOn(s);
                 if (f.firstOnly && f.found > 0) {
                     return;
                 }
             }
         }
 
-        void keepRow(Quarter q) {
-            if (found == 0) {
-                System.arraycopy(row, 0, first, 0, LONGEST_ROW);
+        /** By how many more are wrong if the two of a STAIR swap KEYS. */
+        int change(Quarter q, int stair) {
+            int a = q.one[stair];
+            int b = q.other[stair];
+            int fromA = q.lives[a];
+            int fromB = q.lives[b];
+            a *= MOST_PEOPLE;
+            b *= MOST_PEOPLE;
+            return misfit[a + fromB] - misfit[a + fromA] + misfit[b + fromA] - misfit[b + fromB];
+        }
+
+        /** Tries the last STAIR of ROWS; most ROWS differ there alone, so no KEYS are swapped for it. */
+        void seekLast(Quarter q, int wrong) {
+            int before = found;
+            for (int s = 0; s < q.stairs; s++) {
+                if (wrong + change(q, s) == 0) {
+                    if (found == 0) {
+                        row[rowLength - 1] = s;
+                        System.arraycopy(row, 0, first, 0, LONGEST_ROW);
+                    }
+                    found++;
+                    moveTally(q, q.one[s], q.other[s]);
+                    moveTally(q, q.other[s], q.one[s]);
+                }
             }
-            found++;
+            if (found > before) {
+                addToTally(q, found - before);
+            }
+        }
+
+        /** One more ROW has one live where another one does, and one ROW fewer where he does. */
+        void moveTally(Quarter q, int person, int other) {
+            tally[person * MOST_PEOPLE + q.lives[person]]--;
+            tally[person * MOST_PEOPLE + q.lives[other]]++;
+        }
+
+        void addToTally(Quarter q, int rows) {
             for (int p = 0; p < q.people; p++) {
-                tally[p * MOST_PEOPLE + q.lives[p]]++;
+                tally[p * MOST_PEOPLE + q.lives[p]] += rows;
             }
         }
 

@@ -3,15 +3,18 @@ public final class ChoicesTest {
     private static final String TWO = "person a;person b;";
     private static final String THREE = "person a;person b;person c;";
     private static final String FOUR = THREE + "person d;";
+    private static final String SEVEN = FOUR + "person e;person f;person g;";
 
     public static void main(String[] args) {
         tradeInRings();
         tradeIsRefused();
         bestForAll();
+        bestOfNeedsNoCallAhead();
         envyIsCounted();
         votesAreCounted();
         winnerBeatsAll();
         gameByBestPlay();
+        gameOfFourTurns();
         gameIsRefused();
         moveIsTheFirstOfTheBest();
         moveIsRefused();
@@ -51,8 +54,24 @@ public final class ChoicesTest {
         traded(THREE + "like a b 6;like b a 6;swap a c;swap b c;", "102");
         // two rings in one round
         traded(FOUR + "like a d 9;like d a 9;like b c 9;like c b 9;", "3210");
+        // all like the last one left most: seven rounds, in each of which one keeps his own
+        traded(SEVEN + likesOfAll("abcdefg"), "0123456");
+        traded(SEVEN + likesOfAll("gfedcba"), "0123456");
+        // one ring of all
+        traded(SEVEN + "like a b 6;like b c 6;like c d 6;like d e 6;like e f 6;like f g 6;like g a 6;", "1234560");
         // of several liked most the first
         traded(THREE + "like a b 9;like a c 9;like b a 9;like c a 9;", "102");
+    }
+
+    /** All like these houses, from 1 on, each one more than that ahead of it. */
+    private static String likesOfAll(String houses) {
+        StringBuilder all = new StringBuilder();
+        for (char person = 'a'; person <= 'g'; person++) {
+            for (int i = 0; i < houses.length(); i++) {
+                all.append("like ").append(person).append(' ').append(houses.charAt(i)).append(' ').append(i + 1).append(';');
+            }
+        }
+        return all.toString();
     }
 
     private static void tradeIsRefused() {
@@ -79,6 +98,18 @@ public final class ChoicesTest {
         String nines = "person a;person b;person c;person d;person e;person f;person g;"
             + "like a g 9;like b f 9;like c e 9;like d d 9;like e c 9;like f b 9;like g a 9;";
         given(nines, 63, "6543210");
+    }
+
+    private static void bestOfNeedsNoCallAhead() {
+        // both ways have 14, then the second one has more; b would never trade
+        QuarrelKeys x = Check.with(TWO + "like a b 9;like b b 9;");
+        Check.fine(x, "bestOf(0) at once", x.bestOf(0), 0);
+        Check.fine(x, "bestOf(1) at once", x.bestOf(1), 1);
+        x.tell(1, 1, 6);
+        Check.fine(x, "bestOf(0) of new likings", x.bestOf(0), 1);
+        Check.fine(x, "trade(0)", x.trade(0), 0);
+        Check.fine(x, "bestOf(0) behind a trade", x.bestOf(0), 1);
+        Check.fine(x, "trade(0) behind it", x.trade(0), 0);
     }
 
     private static void envyIsCounted() {
@@ -144,6 +175,27 @@ public final class ChoicesTest {
         Check.fine(apart, "game(0, 1, 4) without stairs of theirs", apart.game(0, 1, 4), 0);
     }
 
+    private static void gameOfFourTurns() {
+        // e has no stair, so his turns are lost; a can't come to e
+        QuarrelKeys x = Check.with(FOUR + "person e;stair a b;stair a c;like a b 7;like a c 6;like a e 9;");
+        Check.fine(x, "game(0, 4, 1)", x.game(0, 4, 1), 2);
+        Check.fine(x, "game(0, 4, 4)", x.game(0, 4, 4), 2);
+        Check.fine(x, "game(4, 0, 4)", x.game(4, 0, 4), -2);
+        Check.fine(x, "game(4, 0, 1)", x.game(4, 0, 1), 0);
+        Check.fine(x, "game(4, 0, 0)", x.game(4, 0, 0), 0);
+        // b, if he moves last, sends a to b (1); a, if he does, gets c (9)
+        QuarrelKeys y = Check.with(THREE + "stair a c;stair b c;stair a b;like a c 9;like a b 1;");
+        Check.fine(y, "game(0, 1, 1)", y.game(0, 1, 1), 4);
+        Check.fine(y, "game(0, 1, 2)", y.game(0, 1, 2), -4);
+        Check.fine(y, "game(0, 1, 3)", y.game(0, 1, 3), 4);
+        // ten stairs and seven people: the greatest game
+        QuarrelKeys z = Check.with(FOUR + "person e;person f;person g;stair a b;stair a c;stair a d;stair a e;stair a f;"
+            + "stair a g;stair b c;stair b d;stair b e;stair b f;like a g 9;like b g 9;");
+        Check.fine(z, "game(0, 1, 1)", z.game(0, 1, 1), 4);
+        Check.fine(z, "moveOf(0, 1, 1)", z.moveOf(0, 1, 1), 5);
+        Check.fine(z, "night(1) of seven", z.night(1), 14);
+    }
+
     private static void gameIsRefused() {
         QuarrelKeys x = Check.with(TWO + "stair a b;");
         int[][] wrong = {{-1, 0, 1, 2}, {0, -1, 1, 2}, {2, 0, 1, 2}, {0, 2, 1, 2}, {2, 2, 9, 2}, {0, 0, 1, 5}, {0, 1, -1, 5},
@@ -168,6 +220,19 @@ public final class ChoicesTest {
         Check.due("lives behind moves", Check.lives(x), "012");
         x.tell(0, 1, 4);
         Check.fine(x, "moveOf(0, 1, 1): not where he loses", x.moveOf(0, 1, 1), 2);
+        moveLooksAhead();
+    }
+
+    private static void moveLooksAhead() {
+        // a takes c (9) by stair 1, but then b can take a (9), too; by stair 2 a gets d (8)
+        QuarrelKeys x = Check.with(FOUR + "stair b c;stair a c;stair a d;like a c 9;like a d 8;like a b 0;like a a 0;"
+            + "like b a 9;");
+        Check.fine(x, "moveOf(0, 1, 1)", x.moveOf(0, 1, 1), 1);
+        Check.fine(x, "moveOf(0, 1, 2)", x.moveOf(0, 1, 2), 2);
+        Check.fine(x, "game(0, 1, 2)", x.game(0, 1, 2), 3);
+        // nothing is best, for the game ends before b can take c (9)
+        QuarrelKeys y = Check.with(THREE + "stair a c;stair b c;like a a 9;like b c 9;");
+        Check.refused(y, "moveOf(0, 1, 1)", z -> z.moveOf(0, 1, 1), 8);
     }
 
     private static void moveIsRefused() {

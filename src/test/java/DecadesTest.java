@@ -6,6 +6,7 @@ public final class DecadesTest {
         decadesAreTaken();
         decadesAreRefused();
         tokensThatCantStand();
+        anyTokenSpoiled();
         namesAndNumbersThatCantBe();
         oneTooMany();
         tooDeep();
@@ -18,6 +19,7 @@ public final class DecadesTest {
         loopsGoAround();
         stopEnds();
         atMost300();
+        whatIsToldIsOfOneLife();
         liveIsRefused();
         livedTells();
         newcomersAndNewStairs();
@@ -120,6 +122,26 @@ public final class DecadesTest {
         faulty("loop 12345;", 1, 5);
         faulty("quarrel 00000;", 1, 8);
         faulty("any\t;", 1, 3);
+    }
+
+    /** Each TOKEN of a text in turn is one that is none, one that can't stand there, or the end. */
+    private static void anyTokenSpoiled() {
+        String[] tokens = ("quarrel 0 ; make 0 ; night 1 ; calm a 1 ; any ; when home a ; when lives a b ; "
+            + "when grudge 0 < 1 ; end ; end ; end ; when temper a = 1 ; end ; loop 2 ; any ; end ; stop ;").split(" ");
+        String ahead = "";
+        int open = 0;
+        for (String token : tokens) {
+            faulty(ahead + "! 1 ;", 1, ahead.length());
+            faulty(ahead + "12345", 1, ahead.length());
+            faulty(ahead + (token.equals("<") || token.equals("=") ? "a" : "< a ;"), 2, ahead.length());
+            if (!ahead.isEmpty() && !ahead.endsWith("; ") || open > 0) {
+                faulty(ahead, 2, ahead.length());
+                faulty(ahead + "odds", 2, ahead.length());
+            }
+            open += token.equals("when") || token.equals("loop") ? 1 : token.equals("end") ? -1 : 0;
+            ahead = ahead + token + " ";
+        }
+        taken(ahead, 12);
     }
 
     private static void namesAndNumbersThatCantBe() {
@@ -361,6 +383,24 @@ public final class DecadesTest {
         lived("loop 99;loop 99;end;end;", 100, 0, 0);
     }
 
+    private static void whatIsToldIsOfOneLife() {
+        QuarrelKeys x = Check.with("cool 0;" + TWO, "quarrel 0;make 0;quarrel 0;loop 2;when home a;night 1;end;end;");
+        x.quarrel(0);
+        x.quarrel(0);
+        x.makeUp(0);
+        x.night(4);
+        // a lives in b now, and home behind the first three
+        Check.due("lives", Check.lives(x), "10");
+        Check.fine(x, "live(0)", x.live(0), 3 + 1 + 4);
+        told(x, 0, 2, 2, 1, 0);
+        Check.decades(x, "loop 99;make 0;make 0;quarrel 0;end;night 1;night 1;stop;");
+        Check.fine(x, "live(0)", x.live(0), 300);
+        Check.fine(x, "left", x.lived(4), 1);
+        Check.decades(x, "when home a;end;when home b;end;loop 3;end;stop;");
+        Check.fine(x, "live(0)", x.live(0), 4);
+        told(x, 0, 0, 0, 0, 0);
+    }
+
     private static void liveIsRefused() {
         QuarrelKeys x = Check.with(TWO);
         Check.refused(x, "live(0) without decades", y -> y.live(0), 8);
@@ -424,6 +464,9 @@ public final class DecadesTest {
         Check.fine(x, "mean(3, 3)", x.mean(3, 3));
         Check.due("top() of 2 + 2 + 4", x.top(), 8);
         Check.due("bottom()", x.bottom(), 3);
+        Check.fine(x, "mean(4, 2)", x.mean(4, 2));
+        Check.due("top() of 2 + 4", x.top(), 3);
+        Check.due("bottom()", x.bottom(), 1);
         Check.fine(x, "mean(9999, 1)", x.mean(9999, 1));
         Check.fine(x, "mean(9980, 20)", x.mean(9980, 20));
         QuarrelKeys away = Check.with("person a;person b;swap a b;", "");

@@ -27,13 +27,16 @@ public final class MarksTest {
     private static void backTakesAllBack() {
         QuarrelKeys x = Check.with("odds 3;cool 4;person a temper 4;person b;person c;stair a b grudge 2;like a b 9;"
             + "swap a c;", "night 1;");
-        x.quarrel(0);
+        Check.fine(x, "quarrel(0)", x.quarrel(0), 3);
         x.night(3);
-        x.makeUp(0);
+        x.tell(0, 1, 5);
+        Check.fine(x, "makeUp(0)", x.makeUp(0), 2);
         String before = Check.sight(x);
         Check.fine(x, "mark()", x.mark(), 1);
         Check.due("a mark changes nothing", Check.sight(x), before);
-        x.quarrel(0);
+        x.calm(0, 9);
+        Check.fine(x, "quarrel(0)", x.quarrel(0), 3);
+        Check.fine(x, "makeUp(0)", x.makeUp(0), 2);
         x.night(7);
         x.calm(1, 9);
         x.tell(0, 1, 0);

@@ -11,6 +11,7 @@ public final class RowsTest {
         homewardSeesNewStairs();
         homewardByNone();
         towardGoesWhereTold();
+        homewardBehindToward();
         towardIsRefused();
         waysAreCounted();
         fitsCountsRows();
@@ -108,6 +109,17 @@ public final class RowsTest {
         row(x, 3);
         Check.quarter(x, "person a;person b;person c;person d;stair a b;stair b c;stair a c;stair b d;swap c d;");
         row(x, 1, 3, 1);
+        // as many stairs as ahead, but one of them goes elsewhere
+        Check.quarter(x, "person a;person b;person c;person d;stair a b;stair b c;stair a c;stair a d;swap c d;");
+        row(x, 2, 3, 2);
+        Check.quarter(x, "person a;person b;person c;person d;stair a b;stair b c;stair a c;stair c d;swap c d;");
+        row(x, 3);
+        Check.quarter(x, "person a;person b;person c;stair a b;swap b c;");
+        Check.refused(x, "homeward()", y -> y.homeward(), 8);
+        Check.quarter(x, "person a;person b;person c;stair c b;swap b c;");
+        row(x, 0);
+        Check.quarter(x, "person a;person b;person c;stair c a;swap b c;");
+        Check.refused(x, "homeward()", y -> y.homeward(), 8);
     }
 
     private static void homewardByNone() {
@@ -153,6 +165,17 @@ public final class RowsTest {
         toward(nobody);
     }
 
+    private static void homewardBehindToward() {
+        QuarrelKeys x = Check.with("person a;person b;stair a b;");
+        Check.lay(x, 0, 1, 0);
+        Check.fine(x, "toward(0)", x.toward(0), 1);
+        Check.fine(x, "homeward()", x.homeward(), 0);
+        x.swap(0, 1);
+        Check.fine(x, "toward(0)", x.toward(0), 0);
+        Check.fine(x, "homeward()", x.homeward(), 1);
+        Check.fine(x, "homewardAt(0)", x.homewardAt(0), 0);
+    }
+
     private static void towardIsRefused() {
         QuarrelKeys x = Check.with("person a;person b;person c;stair a b;");
         int[][] trays = {{-1, 1}, {4, 1}, {1, 3}};
@@ -183,6 +206,7 @@ public final class RowsTest {
         ways(SEVEN + "stair g f;stair f e;stair a b;stair b c;stair c d;", 24 * 6);
         ways(SEVEN + "stair a b;stair a c;stair b c;stair d g;", 12);
         ways("person a;person b;swap a b;", 1);
+        ways(SEVEN + "stair f g;stair e f;stair d e;stair c d;stair b c;stair a b;", 5040);
     }
 
     private static void fitsCountsRows() {
@@ -198,6 +222,9 @@ public final class RowsTest {
         Check.fine(x, "fits(0, 3, 2): all home", x.fits(0, 3, 2), 2);
         Check.fine(x, "fits(0, 3, 1): all home", x.fits(0, 3, 1), 0);
         Check.fine(x, "fits(0, 4, 2): a in a and in b", x.fits(0, 4, 2), 0);
+        Check.lay(x, 1, 0, 0, 0, 1);
+        Check.fine(x, "fits(1, 2, 1): a in a and in b", x.fits(1, 2, 1), 0);
+        Check.fine(x, "fits(1, 1, 1): a in a", x.fits(1, 1, 1), 1);
         Check.lay(x, 1, 0, 1, 1, 2, 0, 1, 1, 2);
         Check.fine(x, "fits(1, 2, 2): a in b, b in c", x.fits(1, 2, 2), 1);
         Check.fine(x, "fits(1, 4, 2): the same twice", x.fits(1, 4, 2), 1);

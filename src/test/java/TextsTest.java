@@ -16,6 +16,8 @@ public final class TextsTest {
         toldAgain();
         oneTooMany();
         theFirstFaultAlongTheText();
+        anyTokenSpoiled();
+        whatStandsBehindDoesNotCount();
         aFaultLeavesTheOldQuarter();
         faultIsOfTheLatest();
         aNewQuarterBeginsAnew();
@@ -255,6 +257,51 @@ public final class TextsTest {
         faulty("odds 12345", 1, 5);
     }
 
+    /** Each TOKEN of a text in turn is one that is none, one that can't stand there, or the end. */
+    private static void anyTokenSpoiled() {
+        String[] tokens = ("odds 5 ; cool 6 ; person a ; person b temper 4 ; stair a b ; person c ; stair b c grudge 3 ; "
+            + "like a b 7 ; swap a b ;").split(" ");
+        String ahead = "";
+        for (String token : tokens) {
+            faulty(ahead + "! 1 ;", 1, ahead.length());
+            faulty(ahead + "12345", 1, ahead.length());
+            faulty(ahead + "= a ;", 2, ahead.length());
+            if (!ahead.isEmpty() && !ahead.endsWith("; ")) {
+                faulty(ahead, 2, ahead.length());
+                faulty(ahead + "home", 2, ahead.length());
+            }
+            ahead = ahead + token + " ";
+        }
+        taken(ahead, 3);
+    }
+
+    private static void cutOff(String text, int n, int kind, int place) {
+        QuarrelKeys x = new QuarrelKeys();
+        Check.feed(x, Check.bytes(text));
+        x.quarter(n);
+        Check.due("fault(0) of " + n + " bytes of " + text, x.fault(0), kind);
+        Check.due("fault(1) of " + n + " bytes of " + text, x.fault(1), place);
+    }
+
+    private static void whatStandsBehindDoesNotCount() {
+        cutOff("odds 99;", 6, 2, 6);
+        cutOff("odds 1;;", 7, 0, -1);
+        cutOff("oddsx", 4, 2, 4);
+        cutOff("odds 12345;", 9, 4, 5);
+        cutOff("person a;", 8, 2, 8);
+        cutOff("person abcdefghi", 15, 2, 15);
+        cutOff("person a;!", 9, 0, -1);
+        cutOff("person a;\n\n!", 11, 0, -1);
+        // the tape's last byte
+        cutOff(" ".repeat(893) + "odds 16", 900, 2, 900);
+        cutOff(" ".repeat(895) + "oddsx", 900, 2, 895);
+        cutOff(" ".repeat(892) + "odds 16;", 900, 0, -1);
+        QuarrelKeys x = new QuarrelKeys();
+        for (int i = 0; i < 3; i++) {
+            Check.fine(x, "the same quarter again", Check.quarter(x, "odds 1;cool 1;person a;"), 1);
+        }
+    }
+
     private static void aFaultLeavesTheOldQuarter() {
         QuarrelKeys x = Check.with("odds 3;cool 4;" + TWO + "stair a b;like a b 7;swap a b;", "night 1;");
         x.quarrel(0);
@@ -293,11 +340,12 @@ public final class TextsTest {
     }
 
     private static void aNewQuarterBeginsAnew() {
-        QuarrelKeys x = Check.with("odds 3;cool 0;" + TWO + "stair a b;like b a 9;like a a 1;", "night 1;");
+        QuarrelKeys x = Check.with("odds 3;cool 0;" + TWO + "stair a b grudge 7;like b a 9;like a b 9;swap a b;", "night 1;quarrel 0;");
         x.quarrel(0);
-        x.makeUp(0);
+        Check.fine(x, "makeUp(0)", x.makeUp(0), 7);
         x.night(5);
         x.live(0);
+        x.mean(0, 1);
         Check.fine(x, "quarter", Check.quarter(x, "person b;person a;person c;"), 3);
         int[] many = {3, 0, 8, 5, 0, 0, 0, 7, 9, 0};
         for (int what = 0; what < many.length; what++) {

@@ -56,8 +56,10 @@ public final class TraysTest {
             Check.fine(x, "tray(" + sort + ", " + sort + ", 60)", x.tray(sort, sort, 60));
             Check.fine(x, "read of the last", x.read(sort, 59), 0);
             Check.fine(x, "write", x.write(sort, 59, 5));
+            Check.fine(x, "write", x.write(sort, 0, 5));
             Check.fine(x, "tray anew", x.tray(sort, sort, 60));
             Check.fine(x, "read of a new tray", x.read(sort, 59), 0);
+            Check.fine(x, "read of a new tray", x.read(sort, 0), 0);
         }
         Check.fine(x, "tray(0, 0, 0)", x.tray(0, 0, 0));
         int empty = 0;
