@@ -112,11 +112,11 @@ public final class QuarrelKeys {
     private final Paths paths = new Paths();
     private final Fitting fitting = new Fitting();
     private final Bargain bargain = new Bargain();
+    private final Fraction fraction = new Fraction();
     private int marks;
     private int status;
     private int toldFault = NONE;
     private int toldPlace = NONE;
-    private final Fraction fraction = new Fraction();
 
     public QuarrelKeys() {
         for (int i = 0; i < TRAYS; i++) {
