@@ -8,6 +8,7 @@ public final class EdgesOfChoicesTest {
     public static void main(String[] args) {
         promise39Trade();
         promise40And41Best();
+        promise39To41AskedAgain();
         promise40And41ByHand();
         promise39And41Refused();
         promise42Envy();
@@ -81,6 +82,21 @@ public final class EdgesOfChoicesTest {
         given("of several ways the first", THREE + "like c b 6;", 16, "021");
         given("of several ways the first by the second one", FOUR + "like a b 9;like d a 6;", 25, "1230");
         given("where all live does not count", THREE + "swap a c;", 15, "012");
+    }
+
+    /** What was reckoned for more PEOPLE, or other LIKINGS, must not count. */
+    private static void promise39To41AskedAgain() {
+        QuarrelKeys x = Check.with(allLike(9));
+        Check.fine(x, "40 seven by 9", x.best(), 63);
+        Check.fine(x, "39 seven by 9", x.trade(6), 6);
+        for (int people = 6; people >= 1; people--) {
+            Check.quarter(x, Edge.SEVEN.substring(0, 9 * people));
+            Check.fine(x, "40 best() of " + people, x.best(), 5 * people);
+            Check.fine(x, "41 the last of " + people, x.bestOf(people - 1), people - 1);
+            Check.fine(x, "39 the last of " + people, x.trade(people - 1), people - 1);
+        }
+        x.quarter(0);
+        Check.fine(x, "40 nobody left", x.best(), 0);
     }
 
     /** By hand: all ways to give three HOUSES; of several the first. */

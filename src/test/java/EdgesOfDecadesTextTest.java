@@ -147,6 +147,10 @@ public final class EdgesOfDecadesTextTest {
             }
         }
         faulty("quarrelx 0;", 2, 0);
+        faulty("any`;", 1, 3);
+        faulty("any{;", 1, 3);
+        faulty("quarrel 0/;", 1, 9);
+        faulty("quarrel 0:;", 1, 9);
         faulty("whenhome a;", 2, 0);
         faulty("calm ab 1;", 3, 5);
     }
@@ -253,7 +257,11 @@ public final class EdgesOfDecadesTextTest {
         taken(ends, 30);
         faultyBehind(ends, "any;", 6);
         faultyBehind(ends, "end;", 2);
-        // thirty STEPS that have an end each are just 300 bytes
+        // thirty STEPS that have an end each are just 300 bytes; all of them are kept
+        Edge.taken("11 thirty loops, each one lived", Edge.with(TWO, "loop9;end;".repeat(30)), x -> x.live(0), 30);
+        QuarrelKeys last = Check.with(TWO, "loop9;end;".repeat(29) + "night 7;");
+        Check.fine(last, "11 a STEP behind 29 ends", last.live(0), 30);
+        Check.fine(last, "11 a STEP behind 29 ends is lived", last.lived(1), 7);
         taken("loop9;end;".repeat(30), 30);
         taken("loop9;".repeat(3) + "end;".repeat(3) + "loop9;end;".repeat(27), 30);
         // STEPS inside count as those outside

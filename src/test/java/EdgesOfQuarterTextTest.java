@@ -81,6 +81,10 @@ public final class EdgesOfQuarterTextTest {
         faulty("person A;", 1, 7);
         faulty("person Z;", 1, 7);
         faulty("person aB;", 1, 8);
+        faulty("person a`;", 1, 8);
+        faulty("person a{;", 1, 8);
+        faulty("odds 1/;", 1, 6);
+        faulty("odds 1:;", 1, 6);
         faulty("person a_b;", 1, 8);
         faulty("person a1;", 2, 8);
         faulty("Person a;", 1, 0);

@@ -16,6 +16,7 @@ public final class EdgesOfRowsTest {
         promise31Homeward();
         promise31And32TheFirst();
         promise32HomewardAt();
+        promise31AskedAgain();
         promise33Toward();
         promise33And34Refused();
         promise33And34TheFirst();
@@ -204,6 +205,30 @@ public final class EdgesOfRowsTest {
         }
     }
 
+    /** The STAIRS may be as they were at the call ahead, or not. */
+    private static void promise31AskedAgain() {
+        QuarrelKeys x = Check.with(Edge.FULL_TEXT);
+        int ten = x.homeward();
+        Check.fine(x, "31 ten STAIRS, asked again", x.homeward(), ten);
+        Check.fine(x, "32 ten STAIRS, asked for the last", Math.min(0, x.homewardAt(ten - 1)), 0);
+        Check.refused(x, "32 ten STAIRS, asked for one beyond", y -> y.homewardAt(ten), 8);
+        x.swap(2, 3);
+        Check.fine(x, "31 ten STAIRS, other KEYS: one more or one less", Math.abs(x.homeward() - ten), 1);
+        Check.quarter(x, "person a;person b;person c;stair a b;stair b c;swap a c;");
+        Check.fine(x, "31 fewer PEOPLE and STAIRS", x.homeward(), 3);
+        x.build(0, 2);
+        Check.fine(x, "31 a STAIR more", x.homeward(), 1);
+        Check.fine(x, "32 a STAIR more", x.homewardAt(0), 2);
+        x.come();
+        Check.fine(x, "31 a PERSON more", x.homeward(), 1);
+        Check.quarter(x, "person a;person b;person c;person d;stair a b;stair b c;stair a d;swap a c;");
+        Check.fine(x, "31 as many, but one STAIR leads elsewhere", x.homeward(), 3);
+        Check.quarter(x, "person a;person b;person c;person d;stair a b;stair b c;stair c d;swap a c;");
+        Check.fine(x, "31 as many, but its first end is another", x.homeward(), 3);
+        Check.quarter(x, "person a;person b;person c;person d;stair a b;stair b c;stair c a;swap a c;");
+        Check.fine(x, "31 as many, but its second end is another", x.homeward(), 1);
+    }
+
     private static Edge.Maker tray(String text, int sort, long... numbers) {
         return () -> {
             QuarrelKeys x = Check.with(text);
@@ -360,6 +385,12 @@ public final class EdgesOfRowsTest {
         Edge.taken("36 one in two HOUSES", tray(THREE + "stair a b;", 0, 0, 0, 0, 1), x -> x.fits(2, 2, 1), 0);
         Edge.taken("36 two in one HOUSE", tray(THREE + "stair a b;", 0, 0, 0, 1, 0), x -> x.fits(2, 2, 1), 0);
         Edge.taken("36 the same two twice", tray(THREE + "stair a b;", 0, 0, 1, 0, 1), x -> x.fits(2, 2, 1), 1);
+        // as many as a ROW can bring where they are told: two by each STAIR
+        String apart = Edge.SEVEN + "stair a b;stair c d;stair e f;stair f g;";
+        Edge.taken("36 six told, three STAIRS in any order", tray(apart, 0, 0, 1, 1, 0, 2, 3, 3, 2, 4, 5, 5, 4), x -> x.fits(2, 6, 3), 6);
+        Edge.taken("36 seven told, four STAIRS, two of them in order", tray(apart, 0, 0, 1, 1, 0, 2, 3, 3, 2, 4, 5, 5, 6, 6, 4),
+            x -> x.fits(2, 7, 4), 12);
+        Edge.taken("36 six told, two STAIRS", tray(apart, 0, 0, 1, 1, 0, 2, 3, 3, 2, 4, 5, 5, 4), x -> x.fits(2, 6, 2), 0);
         Edge.taken("36 whatever HEAT, GRUDGE, LIKING is",
             tray("cool 30;person a temper 0;person b;stair a b grudge 9;like a b 0;", 0, 0, 1), x -> x.fits(2, 1, 3), 1);
     }
