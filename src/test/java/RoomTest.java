@@ -1,12 +1,26 @@
 import java.lang.management.ManagementFactory;
+import java.lang.reflect.Array;
+import java.lang.reflect.Field;
+import java.lang.reflect.Modifier;
+import java.util.Collections;
+import java.util.IdentityHashMap;
+import java.util.Set;
 
 /** All calls live in one room: a call makes nothing, a new object little, and the dearest calls end soon. */
 public final class RoomTest {
     private static final String ALL = "cool 0;person a;person b;person c;person d;person e;person f;person g;stair a b;"
         + "stair b c;stair c d;stair d e;stair e f;stair f g;stair a c;stair b d;stair c e;stair d f;swap a g;swap b f;";
 
-    public static void main(String[] args) {
+    private static final int ROOM_OBJECTS = 600_000;
+    private static final int ROOM_ELEMENTS = 7_300_000;
+    private static final int CALLS = 512;
+
+    private static int objects = 0;
+    private static int elements = 0;
+
+    public static void main(String[] args) throws IllegalAccessException {
         aNewObjectIsSmall();
+        aNewObjectForEachCallFits();
         callsMakeNothing();
         Check.end("RoomTest");
     }
@@ -23,6 +37,34 @@ public final class RoomTest {
         Check.due("status()", x.status(), 0);
         // an int has four bytes: no more than some 15,000 numbers
         Check.due("a new object has " + bytes + " bytes, at most 60,000", bytes <= 60000, true);
+    }
+
+    private static void aNewObjectForEachCallFits() throws IllegalAccessException {
+        count(new QuarrelKeys(), Collections.newSetFromMap(new IdentityHashMap<>()));
+        Check.due(objects + " objects and arrays of a new one, " + CALLS + " times", objects * CALLS <= ROOM_OBJECTS, true);
+        Check.due(elements + " fields and elements of it, " + CALLS + " times", elements * CALLS <= ROOM_ELEMENTS, true);
+    }
+
+    private static void count(Object o, Set<Object> seen) throws IllegalAccessException {
+        if (o == null || !seen.add(o)) {
+            return;
+        }
+        objects++;
+        Class<?> c = o.getClass();
+        if (c.isArray()) {
+            elements += Array.getLength(o);
+            for (int i = 0; !c.getComponentType().isPrimitive() && i < Array.getLength(o); i++) {
+                count(Array.get(o, i), seen);
+            }
+            return;
+        }
+        for (Field f : c.getDeclaredFields()) {
+            if (!Modifier.isStatic(f.getModifiers())) {
+                elements++;
+                f.setAccessible(true);
+                count(f.getType().isPrimitive() ? null : f.get(o), seen);
+            }
+        }
     }
 
     private static void callsMakeNothing() {
